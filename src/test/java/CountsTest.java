@@ -1,0 +1,118 @@
+/** Promises 24 and 25: the counts and the hash. */
+public final class CountsTest {
+    private CountsTest() {
+    }
+
+    public static void main(String[] args) {
+        counts();
+        countRefuses();
+        digestOfNewObject();
+        digestByItsWords();
+        digestChangesNothing();
+        Check.end();
+    }
+
+    private static TrayBox filled() {
+        TrayBox box = Boxes.loose(7, 5, 9, "3x2x2@1;2x2x1l@4;1x1x1@9;5x1x3@2;");
+        box.letDown(0, 1, 1, true);
+        box.letDown(1, 2, 2, false);
+        box.letDown(2, 3, 3, false);
+        return box;
+    }
+
+    private static void counts() {
+        TrayBox box = filled();
+        int air = 7 * 5 * 5 - 12 - 8 - 1;
+        int[] want = {7, 5, 9, 0, 4, 3, 1, 5, air, 3, 3, 33, 6};
+        for (int what = 0; what < want.length; what++) {
+            Check.due("promise 24: count(" + what + ")", box.count(what), want[what]);
+        }
+        box.letDown(3, 2, 0, false);
+        Check.due("promise 24: another free tray", box.count(6), 2);
+        Check.due("promise 24: the height of the box stays", box.count(7), 5);
+        Check.due("promise 24: less air", box.count(8), air - 15);
+        box.empty();
+        Check.due("promise 24: no free trays", box.count(6), 0);
+        Check.due("promise 24: no height", box.count(7), 0);
+        Check.due("promise 24: no air", box.count(8), 0);
+    }
+
+    private static void countRefuses() {
+        TrayBox box = filled();
+        int[] wrong = {-1, 13, Integer.MIN_VALUE, Integer.MAX_VALUE};
+        for (int what : wrong) {
+            Check.due("promise 24: count(" + what + ")", box.count(what), TrayBox.BAD);
+        }
+    }
+
+    private static void digestOfNewObject() {
+        long h = 43160;
+        int[] values = {6, 6, 12, 50, 0, 0, 0, 0, 0, 0, 0, 0, 0};
+        for (int value : values) {
+            h = 31 * h + value;
+        }
+        for (int cell = 0; cell < 36; cell++) {
+            h = 31 * (31 * h + TrayBox.NONE);
+        }
+        for (int what = 0; what < 4; what++) {
+            h = 31 * h;
+        }
+        Check.due("promise 25: digest() of a new object", new TrayBox().digest(), h);
+    }
+
+    private static void digestByItsWords() {
+        TrayBox box = filled();
+        Check.due("promise 25: digest() with trays in and out", box.digest(), hash(box));
+        box.play();
+        Check.due("promise 25: digest() of an empty box", box.digest(), hash(box));
+        box.pack();
+        Check.due("promise 25: digest() of a packed box", box.digest(), hash(box));
+        box.setBox(2, 3, 4);
+        Check.due("promise 25: digest() with trays that have no place", box.digest(), hash(box));
+        TrayBox more = Boxes.loaded("1x1x1@3;1x1x1@2;1x1x1@1;1x1x1@6;1x1x1@5;1x1x1@4;");
+        more.letDown(5, 0, 0, false);
+        more.letDown(1, 0, 0, false);
+        more.letDown(4, 0, 0, false);
+        Check.due("promise 25: digest() with six trays", more.digest(), hash(more));
+    }
+
+    private static long hash(TrayBox box) {
+        long h = 43160;
+        for (int what = 0; what <= 12; what++) {
+            h = 31 * h + box.count(what);
+        }
+        for (int tray = 0; tray < box.count(4); tray++) {
+            for (int what = 0; what <= 15; what++) {
+                h = 31 * h + box.tray(tray, what);
+            }
+            h = 31 * h + box.place(tray, 0);
+            h = 31 * h + box.place(tray, 3);
+        }
+        for (int x = 0; x < box.count(0); x++) {
+            for (int y = 0; y < box.count(1); y++) {
+                h = 31 * h + box.seen(x, y, false);
+                h = 31 * h + box.seen(x, y, true);
+            }
+        }
+        for (int what = 0; what < 4; what++) {
+            h = 31 * h + box.ifPacked(false, what);
+        }
+        for (int tray = 0; tray < box.count(4); tray++) {
+            if (box.tray(tray, 5) == 1) {
+                h = 31 * h + box.liftsTo(tray);
+            }
+        }
+        return h;
+    }
+
+    private static void digestChangesNothing() {
+        TrayBox box = filled();
+        String before = Boxes.allAnswers(box);
+        long first = box.digest();
+        Check.holds("promise 25: nothing changes", before.equals(Boxes.allAnswers(box)));
+        Check.due("promise 25: no change", box.count(12), 6);
+        Check.due("promise 25: digest() again", box.digest(), first);
+        box.type(50);
+        Check.holds("promise 25: another text length, another hash", box.digest() != first);
+    }
+}
