@@ -148,7 +148,7 @@ public final class TrayBox {
             return STATE;
         }
         finder.survey(box);
-        if (!finder.holds(box, lowered, x, y, turned)) {
+        if (!finder.holds(box, lowered, x, y, turned, box.highestFloor(lowered))) {
             return FULL;
         }
         history.record(box);
@@ -204,7 +204,8 @@ public final class TrayBox {
         if (box.row[tray].inside) {
             return STATE;
         }
-        finder.search(box, box.row[tray]);
+        finder.survey(box);
+        finder.search(box, box.row[tray], true);
         if (finder.found == 0) {
             return NONE;
         }
@@ -223,7 +224,8 @@ public final class TrayBox {
         if (box.row[tray].inside) {
             return STATE;
         }
-        finder.search(box, box.row[tray]);
+        finder.survey(box);
+        finder.search(box, box.row[tray], false);
         return finder.found;
     }
 
@@ -508,6 +510,10 @@ public final class TrayBox {
             return x >= 0 && x <= width - tray.alongX(turned) && y >= 0 && y <= length - tray.alongY(turned);
         }
 
+        int highestFloor(Tray tray) {
+            return depth - tray.tall();
+        }
+
         int inside() {
             int set = 0;
             for (int i = 0; i < trays; i++) {
@@ -661,14 +667,15 @@ public final class TrayBox {
                 tops[cell] = 0;
             }
             for (int i = 0; i < box.trays; i++) {
-                Tray tray = box.row[i];
-                if (tray.inside && box.encloses(tray, tray.x, tray.y, tray.turned)) {
-                    raise(tray);
-                }
+                raise(box, box.row[i]);
             }
         }
 
-        private void raise(Tray tray) {
+        /** Adds a tray to the tops that were surveyed, if it is in the box. */
+        void raise(Box box, Tray tray) {
+            if (!tray.inside || !box.encloses(tray, tray.x, tray.y, tray.turned)) {
+                return;
+            }
             for (int y = tray.y; y < tray.endY; y++) {
                 for (int x = tray.x; x < tray.endX; x++) {
                     int cell = y * MOST_SIDE + x;
@@ -677,8 +684,8 @@ public final class TrayBox {
             }
         }
 
-        /** Whether the tray can be let down there, on the tops that were surveyed; keeps its floor and rest. */
-        boolean holds(Box box, Tray tray, int x, int y, boolean turned) {
+        /** Whether the tray stands there on the tops that were surveyed, its floor not above the highest one. */
+        boolean holds(Box box, Tray tray, int x, int y, boolean turned, int highest) {
             floor = 0;
             rest = 0;
             if (!box.encloses(tray, x, y, turned)) {
@@ -689,6 +696,9 @@ public final class TrayBox {
             for (int cellY = y; cellY < endY; cellY++) {
                 for (int cellX = x; cellX < endX; cellX++) {
                     int top = tops[cellY * MOST_SIDE + cellX];
+                    if (top > highest) {
+                        return false;
+                    }
                     if (top > floor) {
                         floor = top;
                         rest = 1;
@@ -697,34 +707,37 @@ public final class TrayBox {
                     }
                 }
             }
-            return floor + tray.tall() <= box.depth && 100 * rest >= box.share * tray.area();
+            return 100 * rest >= box.share * tray.area();
         }
 
-        void search(Box box, Tray tray) {
-            survey(box);
+        /**
+         * Looks for places on the tops that were surveyed; found tells how many there are. If only the best one is
+         * asked for, each place that is found has to be better than the one before: as they come by y, x and way,
+         * of several with the same floor the first one is the best.
+         */
+        void search(Box box, Tray tray, boolean onlyBest) {
             found = 0;
+            int highest = box.highestFloor(tray);
             int ways = tray.width == tray.length ? 1 : 2;
-            for (int y = 0; y < box.length; y++) {
-                for (int x = 0; x < box.width; x++) {
+            for (int y = 0; y < box.length && highest >= 0; y++) {
+                for (int x = 0; x < box.width && highest >= 0; x++) {
                     for (int way = 0; way < ways; way++) {
-                        if (holds(box, tray, x, y, way == 1)) {
-                            keepIfBetter(x, y, way == 1);
+                        if (holds(box, tray, x, y, way == 1, highest)) {
+                            keep(x, y, way == 1);
+                            highest = onlyBest ? floor - 1 : highest;
                         }
                     }
                 }
             }
         }
 
-        // The search comes by y, x and way, so of several with the same floor the first one is the best.
-        private void keepIfBetter(int x, int y, boolean turned) {
+        private void keep(int x, int y, boolean turned) {
             found++;
-            if (found == 1 || floor < bestFloor) {
-                bestX = x;
-                bestY = y;
-                bestTurned = turned;
-                bestFloor = floor;
-                bestRest = rest;
-            }
+            bestX = x;
+            bestY = y;
+            bestTurned = turned;
+            bestFloor = floor;
+            bestRest = rest;
         }
     }
 
@@ -779,11 +792,13 @@ public final class TrayBox {
             for (int k = first; k < trial.trays; k++) {
                 trial.row[byOrder[k]].leave();
             }
+            finder.survey(trial);
             for (int k = first; k < trial.trays; k++) {
                 Tray tray = trial.row[byOrder[k]];
-                finder.search(trial, tray);
+                finder.search(trial, tray, true);
                 if (finder.found > 0) {
                     tray.lie(finder.bestX, finder.bestY, finder.bestTurned, finder.bestFloor, finder.bestRest);
+                    finder.raise(trial, tray);
                 }
             }
         }

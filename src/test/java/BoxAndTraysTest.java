@@ -14,6 +14,7 @@ public final class BoxAndTraysTest {
         add();
         addRefuses();
         drop();
+        dropOfTwelve();
         dropRefuses();
         setTurn();
         setLid();
@@ -129,6 +130,20 @@ public final class BoxAndTraysTest {
         Check.due("promise 9: drop(0)", box.drop(0), 2);
         Check.due("promise 9: drop(0) again", box.drop(0), 1);
         Check.due("promise 9: changes", box.count(12), 5);
+    }
+
+    private static void dropOfTwelve() {
+        TrayBox box = new TrayBox();
+        for (int tray = 0; tray < 12; tray++) {
+            box.add(1, 1, 1, tray % 10);
+        }
+        Check.due("promise 9: drop(5) of twelve trays", box.drop(5), 11);
+        for (int tray = 0; tray < 11; tray++) {
+            int turn = (tray < 5 ? tray : tray + 1) % 10;
+            Check.due("promise 9: turn of the tray " + tray, box.tray(tray, 3), turn);
+        }
+        Check.due("promise 9: the last one of eleven", box.drop(10), 10);
+        Check.due("promise 8: add() has room again", box.add(1, 1, 1, 0), 10);
     }
 
     private static void dropRefuses() {
