@@ -23,9 +23,27 @@ final class Boxes {
 
     /** A box whose share is 0, so that every tray stands everywhere. */
     static TrayBox loose(int width, int length, int depth, String text) {
+        return sized(width, length, depth, 0, text);
+    }
+
+    static TrayBox sized(int width, int length, int depth, int share, String text) {
         TrayBox box = loaded(text);
         box.setBox(width, length, depth);
-        box.setShare(0);
+        box.setShare(share);
+        return box;
+    }
+
+    /** The shortest text of so many trays. */
+    static String text(int trays) {
+        return "1x1x1;".repeat(trays);
+    }
+
+    /** A box with as many trays of one cell, all of them out of it. */
+    static TrayBox withTrays(int trays) {
+        TrayBox box = new TrayBox();
+        for (int tray = 0; tray < trays; tray++) {
+            box.add(1, 1, 1, 0);
+        }
         return box;
     }
 
@@ -41,5 +59,35 @@ final class Boxes {
             }
         }
         return all.toString();
+    }
+
+    /** What digest() has to answer, by the other answers of the same object. */
+    static long hash(TrayBox box) {
+        long h = 43160;
+        for (int what = 0; what <= 12; what++) {
+            h = 31 * h + box.count(what);
+        }
+        for (int tray = 0; tray < box.count(4); tray++) {
+            for (int what = 0; what <= 15; what++) {
+                h = 31 * h + box.tray(tray, what);
+            }
+            h = 31 * h + box.place(tray, 0);
+            h = 31 * h + box.place(tray, 3);
+        }
+        for (int x = 0; x < box.count(0); x++) {
+            for (int y = 0; y < box.count(1); y++) {
+                h = 31 * h + box.seen(x, y, false);
+                h = 31 * h + box.seen(x, y, true);
+            }
+        }
+        for (int what = 0; what < 4; what++) {
+            h = 31 * h + box.ifPacked(false, what);
+        }
+        for (int tray = 0; tray < box.count(4); tray++) {
+            if (box.tray(tray, 5) == 1) {
+                h = 31 * h + box.liftsTo(tray);
+            }
+        }
+        return h;
     }
 }

@@ -62,47 +62,21 @@ public final class CountsTest {
 
     private static void digestByItsWords() {
         TrayBox box = filled();
-        Check.due("promise 25: digest() with trays in and out", box.digest(), hash(box));
-        box.play();
-        Check.due("promise 25: digest() of an empty box", box.digest(), hash(box));
-        box.pack();
-        Check.due("promise 25: digest() of a packed box", box.digest(), hash(box));
-        box.setBox(2, 3, 4);
-        Check.due("promise 25: digest() with trays that have no place", box.digest(), hash(box));
+        Check.due("promise 25: digest() with trays in and out", box.digest(), Boxes.hash(box));
+        TrayBox empty = filled();
+        empty.play();
+        Check.due("promise 25: digest() of an empty box", empty.digest(), Boxes.hash(empty));
+        TrayBox packed = filled();
+        packed.pack();
+        Check.due("promise 25: digest() of a packed box", packed.digest(), Boxes.hash(packed));
+        TrayBox small = filled();
+        small.setBox(2, 3, 4);
+        Check.due("promise 25: digest() with trays that have no place", small.digest(), Boxes.hash(small));
         TrayBox more = Boxes.loaded("1x1x1@3;1x1x1@2;1x1x1@1;1x1x1@6;1x1x1@5;1x1x1@4;");
         more.letDown(5, 0, 0, false);
         more.letDown(1, 0, 0, false);
         more.letDown(4, 0, 0, false);
-        Check.due("promise 25: digest() with six trays", more.digest(), hash(more));
-    }
-
-    private static long hash(TrayBox box) {
-        long h = 43160;
-        for (int what = 0; what <= 12; what++) {
-            h = 31 * h + box.count(what);
-        }
-        for (int tray = 0; tray < box.count(4); tray++) {
-            for (int what = 0; what <= 15; what++) {
-                h = 31 * h + box.tray(tray, what);
-            }
-            h = 31 * h + box.place(tray, 0);
-            h = 31 * h + box.place(tray, 3);
-        }
-        for (int x = 0; x < box.count(0); x++) {
-            for (int y = 0; y < box.count(1); y++) {
-                h = 31 * h + box.seen(x, y, false);
-                h = 31 * h + box.seen(x, y, true);
-            }
-        }
-        for (int what = 0; what < 4; what++) {
-            h = 31 * h + box.ifPacked(false, what);
-        }
-        for (int tray = 0; tray < box.count(4); tray++) {
-            if (box.tray(tray, 5) == 1) {
-                h = 31 * h + box.liftsTo(tray);
-            }
-        }
-        return h;
+        Check.due("promise 25: digest() with six trays", more.digest(), Boxes.hash(more));
     }
 
     private static void digestChangesNothing() {

@@ -157,7 +157,7 @@ public final class LettingDownTest {
         Check.due("promise 14: beside it nothing is above", box.tray(4, 14), 0);
         Check.due("promise 24: the faults", box.count(9), 3);
         Check.due("promise 24: the lifts", box.count(10), 6);
-        TrayBox tower = Boxes.loose(2, 2, 30, "1x1x1;1x1x1;1x1x1;1x1x1;1x1x1;1x1x1;1x1x1;1x1x1;1x1x1;1x1x1;1x1x1;1x1x1;");
+        TrayBox tower = Boxes.loose(2, 2, 30, Boxes.text(12));
         for (int tray = 11; tray >= 0; tray--) {
             tower.letDown(tray, 1, 1, false);
         }

@@ -28,7 +28,7 @@ public final class ModelTest {
 
     private void runCalls() {
         startWithShape();
-        while (calls < CALLS - 8 && Check.isAllRight()) {
+        while (calls < CALLS - 9 && Check.isAllRight()) {
             step();
         }
         due("digest()", box.digest(), model.digest());

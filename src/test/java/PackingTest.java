@@ -88,22 +88,15 @@ public final class PackingTest {
         Check.due(promise + ": the air", box.count(8), figures[3]);
     }
 
-    private static TrayBox small(int width, int length, int depth, int share, String text) {
-        TrayBox box = Boxes.loaded(text);
-        box.setBox(width, length, depth);
-        box.setShare(share);
-        return box;
-    }
-
     private static void bestByTraysOut() {
-        TrayBox box = small(2, 2, 9, 100, "1x2x1@2;2x2x3@0;2x2x2@1;");
+        TrayBox box = Boxes.sized(2, 2, 9, 100, "1x2x1@2;2x2x3@0;2x2x2@1;");
         Check.due("promise 20: by the usual order two stay out", box.ifPacked(false, 0), 2);
         Check.due("promise 20: without faults", box.ifPacked(false, 1), 0);
         best("promise 19, trays that stay out", box, new int[] {2, 1, 0}, new int[] {0, 2, 6, 2});
     }
 
     private static void bestByFaults() {
-        TrayBox box = small(3, 2, 7, 50, "3x1x1@0;2x2x2@2;1x2x3@0;");
+        TrayBox box = Boxes.sized(3, 2, 7, 50, "3x1x1@0;2x2x2@2;1x2x3@0;");
         best("promise 19, faults", box, new int[] {1, 0, 2}, new int[] {0, 0, 5, 13});
         Check.due("promise 19: let down turned", box.tray(2, 6), 1);
         Check.due("promise 19: its x", box.tray(2, 7), 0);
@@ -112,21 +105,21 @@ public final class PackingTest {
     }
 
     private static void bestByHeight() {
-        TrayBox box = small(3, 3, 3, 0, "1x2x1@0;3x3x2@2;3x3x1@0;");
+        TrayBox box = Boxes.sized(3, 3, 3, 0, "1x2x1@0;3x3x2@2;3x3x1@0;");
         best("promise 19, height", box, new int[] {0, 2, 1}, new int[] {1, 0, 2, 7});
     }
 
     private static void bestByAir() {
-        TrayBox box = small(2, 3, 2, 0, "1x2x1@1;2x3x1@1;3x2x1@1;");
+        TrayBox box = Boxes.sized(2, 3, 2, 0, "1x2x1@1;2x3x1@1;3x2x1@1;");
         best("promise 19, air", box, new int[] {1, 2, 0}, new int[] {1, 0, 2, 0});
     }
 
     private static void bestByNumbers() {
-        TrayBox box = small(6, 6, 12, 50, "1x1x1;1x1x1;1x1x1;1x1x1;1x1x1;");
+        TrayBox box = Boxes.sized(6, 6, 12, 50, "1x1x1;1x1x1;1x1x1;1x1x1;1x1x1;");
         best("promise 19, numbers", box, new int[] {0, 1, 2, 3, 4}, new int[] {0, 0, 1, 31});
         best("promise 19, no trays", new TrayBox(), new int[] {}, new int[] {0, 0, 0, 0});
-        best("promise 19, one tray", small(2, 2, 1, 0, "2x1x1@4;"), new int[] {0}, new int[] {0, 0, 1, 2});
-        TrayBox last = small(2, 2, 9, 0, "2x2x1@0;2x2x1@1;2x2x1@2;2x2x1@3;2x2x1@4;");
+        best("promise 19, one tray", Boxes.sized(2, 2, 1, 0, "2x1x1@4;"), new int[] {0}, new int[] {0, 0, 1, 2});
+        TrayBox last = Boxes.sized(2, 2, 9, 0, "2x2x1@0;2x2x1@1;2x2x1@2;2x2x1@3;2x2x1@4;");
         best("promise 19, the last order", last, new int[] {4, 3, 2, 1, 0}, new int[] {0, 0, 5, 0});
     }
 
