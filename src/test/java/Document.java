@@ -62,12 +62,10 @@ final class Document {
         }
     }
 
-    /** Every word of the promises, and of the description that they use, has to be quoted by some test. */
+    /** Every word, from the first line to the last promise, has to be quoted by some test. */
     static void checkThatAllIsQuoted() {
-        boolean isDescribed = false;
         for (String section : READ.words.keySet()) {
-            isDescribed |= section.equals("Description");
-            if (isDescribed && !section.equals("Not promised")) {
+            if (!section.equals("Not promised")) {
                 String left = READ.unquoted(section);
                 Check.holds(section + ": every word is tested, but for \"" + left + "\"", left.isEmpty());
             }

@@ -1,12 +1,13 @@
 /**
  * The document sentence by sentence: each test quotes the words of the section that it is about, and at the end no word
- * of the description and of the promises may be left that no test has quoted.
+ * from the first line to the last promise may be left that no test has quoted.
  */
 public final class SentencesTest {
     private SentencesTest() {
     }
 
     public static void main(String[] args) {
+        WholeSentences.run();
         BoxSentences.run();
         TextSentences.run();
         LettingDownSentences.run();
